@@ -1685,10 +1685,10 @@ public final class FareNumbers {
 
         /** Gives numbers to the HALTS that are left: whether there is a row (when counting, all are gone by). */
         private boolean goOn(Net net, int left, int set) {
-            if (left == 0) {
+            int halt = nextOf(net, left, set);
+            if (halt == NONE) {
                 return true;
             }
-            int halt = nextOf(net, left, set);
             long free = fitting(net, halt, set);
             int rest = left & ~(1 << halt);
             if (counting && rest == 0) {
@@ -1732,10 +1732,10 @@ public final class FareNumbers {
             return false;
         }
 
-        /** The lowest HALT that is left, or the one that is bound most, by which fewer rows are gone by. */
+        /** The lowest HALT that is left, or the one that is bound most, by which fewer rows are gone by; or NONE. */
         private int nextOf(Net net, int left, int set) {
-            int best = 0;
-            int most = NONE;
+            int best = NONE;
+            int strongest = NONE;
             for (int halt = 0; halt < HALTS; halt++) {
                 if ((left >> halt & 1) == 0) {
                     continue;
@@ -1745,8 +1745,8 @@ public final class FareNumbers {
                 }
                 int beside = net.beside[halt];
                 int bound = Integer.bitCount(beside & set) * HALTS + Integer.bitCount(beside);
-                if (bound > most) {
-                    most = bound;
+                if (bound > strongest) {
+                    strongest = bound;
                     best = halt;
                 }
             }
@@ -1889,12 +1889,12 @@ public final class FareNumbers {
 
         /** Gives places to the HALTS that are left, the lowest first: whether there is a row. */
         private boolean goOn(int left, int set) {
-            if (left == 0) {
-                return true;
-            }
             int halt = 0;
-            while (halt < HALTS - 1 && (left >> halt & 1) == 0) {
+            while (halt < HALTS && (left >> halt & 1) == 0) {
                 halt++;
+            }
+            if (halt >= HALTS) {
+                return true;
             }
             long free = fitting(halt, set);
             for (int value = 0; value <= MOST_PLACE; value++) {
@@ -1972,12 +1972,12 @@ public final class FareNumbers {
         }
 
         private void goAlike(Net net, int left) {
-            if (left == 0) {
+            int line = tightest(net, left);
+            if (line == NONE) {
                 ways++;
                 keepLowest(net);
                 return;
             }
-            int line = tightest(net, left);
             int a = net.one[line];
             int b = net.other[line];
             int from = 1;
@@ -2025,9 +2025,9 @@ public final class FareNumbers {
             return lack >= lines * (lines + 1) / 2 && lack <= lines * (2 * net.count - lines + 1) / 2;
         }
 
-        /** A LINE without a weight at the HALT that has fewest of them. */
+        /** A LINE without a weight at the HALT that has fewest of them, or NONE. */
         private int tightest(Net net, int left) {
-            int best = 0;
+            int best = NONE;
             int fewest = LINES + 1;
             for (int line = 0; line < LINES; line++) {
                 if ((left >> line & 1) != 0) {
