@@ -43,6 +43,7 @@ public final class PlainTest {
         private final StringBuilder told = new StringBuilder();
         private final int mostLines;
         private final boolean manyDays;
+        private final boolean highNumbers;
         private int done;
 
         Run(int seed, Map<String, Integer> calls) {
@@ -50,6 +51,7 @@ public final class PlainTest {
             this.calls = calls;
             this.mostLines = seed % 8 == 0 ? 10 : 4 + random.nextInt(5);
             this.manyDays = seed % 10 == 3;
+            this.highNumbers = seed % 5 == 2;
         }
 
         String go() throws Exception {
@@ -78,6 +80,9 @@ public final class PlainTest {
         }
 
         private String act() throws Exception {
+            if (highNumbers && random.nextInt(3) == 0) {
+                return random.nextInt(3) == 0 ? call("mend") : call("plate", pick(7), random.nextBoolean() ? pick(25) : 70 + pick(30));
+            }
             switch (random.nextInt(manyDays ? 16 : 13)) {
                 case 0: case 1:
                     if (plain.w.lines.size() >= mostLines) {
@@ -85,7 +90,7 @@ public final class PlainTest {
                     }
                     return call("lay", pick(7), pick(7));
                 case 2: case 3:
-                    return call("plate", pick(7), random.nextInt(3) == 0 ? pick(100) : pick(12));
+                    return call("plate", pick(7), random.nextInt(3) != 0 ? pick(12) : random.nextBoolean() ? pick(100) : 60 + pick(40));
                 case 4:
                     return call("turn", pick(10));
                 case 5:
@@ -196,7 +201,20 @@ public final class PlainTest {
             wrong = wrong != null ? wrong : call("text");
             wrong = wrong != null ? wrong : call("fault", 0);
             wrong = wrong != null ? wrong : call("fault", 1);
+            wrong = wrong != null || random.nextBoolean() ? wrong : laws();
             return wrong == null ? null : wrong + " of {" + text + "}";
+        }
+
+        /** What the TEXT that was told latest says of all LINES, and of some numbers of all HALTS. */
+        private String laws() throws Exception {
+            String wrong = call("by", plain.w.texts.size() - 1);
+            for (int line = 0; line < plain.w.lines.size() && wrong == null; line++) {
+                wrong = call("of", line, 4);
+            }
+            for (int halt = 0; halt < 7 && wrong == null; halt++) {
+                wrong = call("costs", halt, pick(100));
+            }
+            return wrong;
         }
 
         private String call(String name, Object... with) throws Exception {

@@ -34,6 +34,7 @@ public final class PromisesTest {
         rides();
         whose();
         image();
+        manyNets();
         if (wrong != 0) {
             System.out.println(wrong + " answers are not as due");
             System.exit(1);
@@ -104,6 +105,55 @@ public final class PromisesTest {
         due("lay(5, 6)", x.lay(5, 6), -1);
         due("about(0)", x.about(0), 10);
         due("of(0, 3)", x.of(0, 3), 1);
+    }
+
+    /** A search is anew for another net, however many were asked for ahead. */
+    private static void manyNets() {
+        promise = 26;
+        FareNumbers x = new FareNumbers();
+        for (int i = 0; i < 98; i++) {
+            String lines = "" + i % 7 + (i / 7 + 1) % 7 + " " + (i + 1) % 7 + (i / 3 + 2) % 7 + " " + (i + 5) % 7 + (i / 9) % 7;
+            FareNumbers fresh = net(lines);
+            x.back();
+            for (int at = 0; at < lines.length(); at += 3) {
+                x.lay(lines.charAt(at) - '0', lines.charAt(at + 1) - '0');
+            }
+            for (int halt = 0; halt < 7; halt++) {
+                due("span", x.span(halt), fresh.span(halt));
+                due("band", x.band(halt), fresh.band(halt));
+                due("apart", x.apart(1, 2, halt), fresh.apart(1, 2, halt));
+                due("alike", x.alike(halt), fresh.alike(halt));
+                due("unlike", x.unlike(halt), fresh.unlike(halt));
+                due("wholes", x.wholes(), fresh.wholes());
+            }
+            if (i % 6 == 5) {
+                x = new FareNumbers();
+            }
+        }
+        for (int first = 0; first < 49; first++) {
+            for (int second = 0; second < 49; second++) {
+                if (first / 7 < first % 7 && second / 7 < second % 7) {
+                    oneLine(first, second);
+                }
+            }
+        }
+    }
+
+    private static void oneLine(int first, int second) {
+        FareNumbers x = new FareNumbers();
+        x.lay(first / 7, first % 7);
+        due("span", x.span(first % 7), 1);
+        due("band", x.band(first % 7), 1);
+        due("apart", x.apart(2, 2, first % 7), 2);
+        x.back();
+        x.lay(second / 7, second % 7);
+        due("span", x.span(second % 7), 1);
+        due("span", x.span(second / 7), 0);
+        due("band", x.band(second % 7), 1);
+        due("apart", x.apart(2, 2, second % 7), 2);
+        due("apart", x.apart(2, 2, second / 7), 0);
+        due("apart", x.apart(3, 2, second % 7), 3);
+        due("apart", x.apart(3, 3, second % 7), 3);
     }
 
     private static void tape() {
@@ -390,6 +440,11 @@ public final class PromisesTest {
         due("played(3)", x.played(3), 0);
         due("is(0)", x.is(0), 9999);
         due("played(3)", x.played(3), 0);
+        promise = 13;
+        for (int seed = 0; seed < 9; seed++) {
+            due("years(" + seed + ", 40)", x.years(seed, 40), 9999);
+            due("is(0)", x.is(0), 9999);
+        }
     }
 
     private static void years() {
@@ -585,6 +640,32 @@ public final class PromisesTest {
         rides("if 1=1 or 1=2 and 1=2 then 1 else 2 end", 1);
         rides("if not 1=1 or 1=1 then 1 else 2 end", 1);
         rides("if 1=2 or 1=1 and 1=2 then 1 else 2 end", 2);
+        String[] asks = {"1=2", "1=1"};
+        for (int a = 0; a < 2; a++) {
+            for (int b = 0; b < 2; b++) {
+                for (int c = 0; c < 2; c++) {
+                    String tail = " then 8 else 3 end";
+                    boolean isA = a == 1;
+                    boolean isB = b == 1;
+                    boolean isC = c == 1;
+                    rides("if " + asks[a] + " and " + asks[b] + " and " + asks[c] + tail, isA && isB && isC ? 8 : 3);
+                    rides("if " + asks[a] + " or " + asks[b] + " or " + asks[c] + tail, isA || isB || isC ? 8 : 3);
+                    rides("if " + asks[a] + " or " + asks[b] + " and " + asks[c] + tail, isA || isB && isC ? 8 : 3);
+                    rides("if " + asks[a] + " and " + asks[b] + " or " + asks[c] + tail, isA && isB || isC ? 8 : 3);
+                    rides("if not " + asks[a] + " and not " + asks[b] + tail, !isA && !isB ? 8 : 3);
+                }
+            }
+        }
+        int[] differs = {-1, 0, 1};
+        for (int differ : differs) {
+            String both = (3 + differ) + " ";
+            rides("if " + both + "< 3 then 8 else 2 end", differ < 0 ? 8 : 2);
+            rides("if " + both + "<= 3 then 8 else 2 end", differ <= 0 ? 8 : 2);
+            rides("if " + both + "> 3 then 8 else 2 end", differ > 0 ? 8 : 2);
+            rides("if " + both + ">= 3 then 8 else 2 end", differ >= 0 ? 8 : 2);
+            rides("if " + both + "= 3 then 8 else 2 end", differ == 0 ? 8 : 2);
+            rides("if " + both + "# 3 then 8 else 2 end", differ != 0 ? 8 : 2);
+        }
         rides("if 1=2 then 1 else if 1=1 then 3 else 4 end end+if 1=1 then 2 else 9 end", 5);
         FareNumbers x = net("01 12");
         signs(x, 4, 4, 9);
@@ -868,6 +949,16 @@ public final class PromisesTest {
         // all FARES of a star must be unlike: its middle alone is not enough
         x = net("60 61 62");
         due("mend()", x.mend(), 7);
+        // FARES above 63: of 99 to 29 and 29 the one must change, by 0 to 20 to a FARE of 79 to 99
+        x = net("01 02");
+        signs(x, 99, 29, 29);
+        due("mend()", x.mend(), 2);
+        // 01 and 14 stay alike, whatever 1 has alone
+        x = net("01 14 24 34");
+        signs(x, 29, 99, 99, 9, 29);
+        due("mend()", x.mend(), 3);
+        x.plate(0, 99);
+        due("mend()", x.mend(), 2);
         x = net("01 23");
         due("mend()", x.mend(), 5);
         signs(x, 0, 0, 50, 71);
