@@ -188,14 +188,27 @@ public final class FareNumbers {
     }
 
     public int played(int text) {
-        return world.hasText(text) ? world.perform(world.texts[text]) : OTHERS;
+        if (!world.hasText(text)) {
+            return OTHERS;
+        }
+        Text told = world.texts[text];
+        for (int i = 0; i < told.clauses; i++) {
+            if (!world.perform(told.kinds[i], told.firsts[i], told.seconds[i])) {
+                return i;
+            }
+        }
+        return NONE;
     }
 
     public int years(int seed, int n) {
         if (seed < 0 || seed > MOST_SEED || n < 1 || n > MOST_YEARS) {
             return NONE;
         }
-        world.passYears(seed, n);
+        world.keepStep();
+        world.now.x = seed * 2 + 439;
+        for (int i = 0; i < n; i++) {
+            world.drawOnce(world.now.draw());
+        }
         return world.now.day;
     }
 
@@ -217,7 +230,7 @@ public final class FareNumbers {
             case 3:
                 return world.openBits() >> line & 1;
             case 4:
-                return world.ridesOf(line);
+                return world.lawSays(RIDES, line, 0);
             default:
                 return NONE;
         }
@@ -234,7 +247,7 @@ public final class FareNumbers {
         if (halt < 0 || halt >= HALTS || number < 0 || number > MOST_NUMBER) {
             return NO_COSTS;
         }
-        return world.costsOf(halt, number);
+        return world.lawSays(COSTS, halt, number);
     }
 
     public int is(int what) {
@@ -678,6 +691,18 @@ public final class FareNumbers {
             }
         }
 
+        /** A law whose operations are those from there on. */
+        void addLaw(int kind, int from) {
+            if (kind == RIDES) {
+                ridesFrom = from;
+                ridesTo = length;
+            } else {
+                costsFrom = from;
+                costsTo = length;
+            }
+            add(kind, 0, 0);
+        }
+
         void add(int kind, int first, int second) {
             if (clauses < CLAUSES) {
                 kinds[clauses] = kind;
@@ -749,14 +774,16 @@ public final class FareNumbers {
 
         /** The FARE of a LINE, OPEN or not; 0 for others. */
         int fareOf(int line) {
-            return hasLine(line) ? Math.abs(now.numbers[one[line]] - now.numbers[other[line]]) : 0;
+            if (line < 0 || line >= lines) {
+                return 0;
+            }
+            return Math.abs(now.numbers[one[line]] - now.numbers[other[line]]);
         }
 
         int besideBits(int halt) {
-            int open = openBits();
             int bits = 0;
             for (int line = 0; line < lines; line++) {
-                if ((open >> line & 1) == 0) {
+                if ((now.shut >> line & 1) != 0) {
                     continue;
                 }
                 if (one[line] == halt) {
@@ -772,18 +799,15 @@ public final class FareNumbers {
             return hasText(ruling) ? texts[ruling] : null;
         }
 
-        int ridesOf(int line) {
-            return teller.tellRides(this, theText(), line);
-        }
-
-        int costsOf(int halt, int number) {
-            return teller.tellCosts(this, theText(), halt, number);
+        /** rides of a LINE or costs of a HALT and a NUMBER, by THE TEXT. */
+        int lawSays(int law, int which, int number) {
+            return teller.tell(this, theText(), law, which, number);
         }
 
         /** Whether by that TEXT all that was SAID is so. */
         boolean saysAll(Text text) {
             for (int i = 0; i < saidCount; i++) {
-                if (teller.tellRides(this, text, saidLine[i]) != saidRides[i]) {
+                if (teller.tell(this, text, RIDES, saidLine[i], 0) != saidRides[i]) {
                     return false;
                 }
             }
@@ -805,7 +829,7 @@ public final class FareNumbers {
             return lines - 1;
         }
 
-        private void keepStep() {
+        void keepStep() {
             if (stepCount >= STEPS) {
                 firstStep = (firstStep + 1) % STEPS;
                 stepCount = STEPS - 1;
@@ -827,7 +851,7 @@ public final class FareNumbers {
             if (halt < 0 || halt >= HALTS || number < 0 || number > MOST_NUMBER || now.numbers[halt] == number) {
                 return NONE;
             }
-            int cost = costsOf(halt, number);
+            int cost = teller.tell(this, theText(), COSTS, halt, number);
             if (now.fund < cost) {
                 return NONE;
             }
@@ -868,10 +892,11 @@ public final class FareNumbers {
             if (step) {
                 keepStep();
             }
-            int open = openBits();
+            Text law = theText();
             int came = 0;
             for (int line = 0; line < lines; line++) {
-                if ((open >> line & 1) != 0 && now.draw() % 10 < ridesOf(line)) {
+                boolean isOpen = (now.shut >> line & 1) == 0;
+                if (isOpen && now.draw() % 10 < teller.tell(this, law, RIDES, line, 0)) {
                     int fare = fareOf(line);
                     came += fare;
                     now.fund = Math.min(MOST_FUND, now.fund + fare);
@@ -882,15 +907,8 @@ public final class FareNumbers {
             return came;
         }
 
-        void passYears(int seed, int n) {
-            keepStep();
-            now.x = seed * 2 + 439;
-            for (int i = 0; i < n; i++) {
-                drawOnce(now.draw());
-            }
-        }
-
-        private void drawOnce(int drawn) {
+        /** What a draw of YEARS does, if it can be done. */
+        void drawOnce(int drawn) {
             int sixth = drawn / 6;
             switch (drawn % 6) {
                 case 0:
@@ -912,17 +930,8 @@ public final class FareNumbers {
             }
         }
 
-        /** PLAYED: NONE, or the number of the CLAUSE that can't be. */
-        int perform(Text text) {
-            for (int i = 0; i < text.clauses; i++) {
-                if (!performOne(text.kinds[i], text.firsts[i], text.seconds[i])) {
-                    return i;
-                }
-            }
-            return NONE;
-        }
-
-        private boolean performOne(int kind, int first, int second) {
+        /** Does a CLAUSE as by hand: whether it could be done wholly. */
+        boolean perform(int kind, int first, int second) {
             switch (kind) {
                 case LAY:
                     return addLine(first, second) != NONE;
@@ -933,21 +942,14 @@ public final class FareNumbers {
                 case GRANT:
                     return giveGrant(first, true);
                 case DAY:
-                    return passDays(first);
+                    int passed = Math.min(first, LAST_DAY - now.day);
+                    for (int i = 0; i < passed; i++) {
+                        passDay(true);
+                    }
+                    return passed == first;
                 default:
                     return true;
             }
-        }
-
-        /** Those of so many DAYS that can pass: whether all could. */
-        private boolean passDays(int n) {
-            for (int i = 0; i < n; i++) {
-                if (now.day >= LAST_DAY) {
-                    return false;
-                }
-                passDay(true);
-            }
-            return true;
         }
     }
 
@@ -958,42 +960,31 @@ public final class FareNumbers {
         private int which;
         private int otherNumber;
 
-        int tellRides(World world, Text text, int line) {
-            if (text == null || !text.has(RIDES)) {
-                return USUAL_RIDES;
+        /** rides or costs by a TEXT (null: by none) of the LINE or the HALT of that number. */
+        int tell(World world, Text text, int law, int about, int number) {
+            boolean isRides = law == RIDES;
+            if (text == null || !text.has(law)) {
+                return isRides ? USUAL_RIDES : USUAL_COSTS;
             }
-            which = line;
-            int value = run(world, text, text.ridesFrom, text.ridesTo);
-            return Math.max(0, Math.min(MOST_RIDES, value));
-        }
-
-        int tellCosts(World world, Text text, int halt, int number) {
-            if (text == null || !text.has(COSTS)) {
-                return USUAL_COSTS;
-            }
-            which = halt;
+            which = about;
             otherNumber = number;
-            int value = run(world, text, text.costsFrom, text.costsTo);
-            return Math.max(0, Math.min(MOST_COSTS, value));
-        }
-
-        private int run(World world, Text text, int from, int to) {
             top = 0;
-            int at = from;
+            int at = isRides ? text.ridesFrom : text.costsFrom;
+            int end = isRides ? text.ridesTo : text.costsTo;
             // jumps go ahead alone, so that each operation is come to once at most
-            for (int i = from; i < to && at < to && at < TAPE; i++) {
+            for (int i = 0; i < TAPE && at >= 0 && at < end && at < TAPE; i++) {
                 int operation = text.code[at] & 63;
                 int with = text.code[at] >> 6;
                 at++;
                 if (operation == THEN) {
-                    at = pop() == 0 ? Math.max(at, with) : at;
+                    at = pop() == 0 ? with : at;
                 } else if (operation == ELSE) {
-                    at = Math.max(at, with);
+                    at = with;
                 } else {
                     push(valueOf(world, operation, with));
                 }
             }
-            return pop();
+            return Math.max(0, Math.min(isRides ? MOST_RIDES : MOST_COSTS, pop()));
         }
 
         private void push(int value) {
@@ -1175,28 +1166,20 @@ public final class FareNumbers {
                 return wrong(TOO_MANY);
             }
             advance();
-            return (isLaw ? lawClause(kind) : doClause(kind)) && expect(STOP);
-        }
-
-        private static boolean startsClause(int kind) {
-            return kind >= RIDES && kind <= DAY && kind != TO && kind != AT;
-        }
-
-        private boolean lawClause(int kind) {
+            if (!isLaw) {
+                return doClause(kind) && expect(STOP);
+            }
             law = kind;
             int start = into.length;
             if (!sum(0)) {
                 return false;
             }
-            if (kind == RIDES) {
-                into.ridesFrom = start;
-                into.ridesTo = into.length;
-            } else {
-                into.costsFrom = start;
-                into.costsTo = into.length;
-            }
-            into.add(kind, 0, 0);
-            return true;
+            into.addLaw(kind, start);
+            return expect(STOP);
+        }
+
+        private static boolean startsClause(int kind) {
+            return kind >= RIDES && kind <= DAY && kind != TO && kind != AT;
         }
 
         private boolean doClause(int kind) {
@@ -1425,25 +1408,18 @@ public final class FareNumbers {
             for (int i = next; i < length && isLetter(bytes[i]); i++) {
                 next++;
             }
-            for (int word = 0; word < WORD_COUNT; word++) {
-                if (isWord(word)) {
+            int size = next - from;
+            for (int word = 0; word < WORD_COUNT && size < WORD_WIDTH; word++) {
+                int same = 0;
+                for (int i = 0; i < WORD_WIDTH && same == i; i++) {
+                    int here = i < size ? bytes[from + i] : ' ';
+                    same += WORDS.charAt(word * WORD_WIDTH + i) == here ? 1 : 0;
+                }
+                if (same == WORD_WIDTH) {
                     return word;
                 }
             }
             return STRANGE;
-        }
-
-        private boolean isWord(int word) {
-            if (next - from >= WORD_WIDTH) {
-                return false;
-            }
-            for (int i = 0; i < WORD_WIDTH; i++) {
-                int here = from + i < next ? bytes[from + i] : ' ';
-                if (WORDS.charAt(word * WORD_WIDTH + i) != here) {
-                    return false;
-                }
-            }
-            return true;
         }
 
         private int digits() {
@@ -1898,14 +1874,16 @@ public final class FareNumbers {
             }
             long free = fitting(halt, set);
             for (int value = 0; value <= MOST_PLACE; value++) {
-                if ((free >> value & 1) != 0) {
-                    place[halt] = value;
-                    if (goOn(left & ~(1 << halt), set | 1 << halt)) {
-                        return true;
-                    }
+                if ((free >> value & 1) != 0 && goOnWith(halt, value, left, set)) {
+                    return true;
                 }
             }
             return false;
+        }
+
+        private boolean goOnWith(int halt, int value, int left, int set) {
+            place[halt] = value;
+            return goOn(left & ~(1 << halt), set | 1 << halt);
         }
 
         private long fitting(int halt, int set) {
@@ -1987,15 +1965,20 @@ public final class FareNumbers {
                 to = Math.min(to, from);
             }
             for (int value = from; value <= to; value++) {
-                if ((used >> value & 1) != 0) {
-                    continue;
+                if ((used >> value & 1) == 0) {
+                    goAlikeWith(net, left, line, value);
                 }
-                put(line, a, b, value, -1);
-                if (canBe(net, a) && canBe(net, b)) {
-                    goAlike(net, left & ~(1 << line));
-                }
-                takeOff(a, b, value, -1);
             }
+        }
+
+        private void goAlikeWith(Net net, int left, int line, int value) {
+            int a = net.one[line];
+            int b = net.other[line];
+            put(line, a, b, value, -1);
+            if (canBe(net, a) && canBe(net, b)) {
+                goAlike(net, left & ~(1 << line));
+            }
+            takeOff(a, b, value, -1);
         }
 
         private void put(int line, int a, int b, int value, int sign) {
@@ -2085,18 +2068,22 @@ public final class FareNumbers {
             if (line >= LINES) {
                 return true;
             }
-            int a = net.one[line];
-            int b = net.other[line];
             for (int value = 1; value <= net.count; value++) {
-                if ((used >> value & 1) != 0) {
-                    continue;
-                }
-                put(line, a, b, value, 1);
-                if (!isMet(net, a) && !isMet(net, b) && goUnlike(net, line + 1)) {
+                if ((used >> value & 1) == 0 && goUnlikeWith(net, line, value)) {
                     return true;
                 }
-                takeOff(a, b, value, 1);
             }
+            return false;
+        }
+
+        private boolean goUnlikeWith(Net net, int line, int value) {
+            int a = net.one[line];
+            int b = net.other[line];
+            put(line, a, b, value, 1);
+            if (!isMet(net, a) && !isMet(net, b) && goUnlike(net, line + 1)) {
+                return true;
+            }
+            takeOff(a, b, value, 1);
             return false;
         }
 
@@ -2154,21 +2141,27 @@ public final class FareNumbers {
             return ways;
         }
 
-        private int swapsFrom(Net net, int halt, int taken) {
+        /** In how many ways the HALTS from one on that are beside any can change places. */
+        private int swapsFrom(Net net, int from, int taken) {
+            int halt = from;
+            while (halt < HALTS && !net.isBeside(halt)) {
+                halt++;
+            }
             if (halt >= HALTS) {
                 return 1;
-            }
-            if (!net.isBeside(halt)) {
-                return swapsFrom(net, halt + 1, taken);
             }
             int ways = 0;
             for (int to = 0; to < HALTS; to++) {
                 if ((taken >> to & 1) == 0 && net.isBeside(to) && keepsBeside(net, halt, to)) {
-                    swapped[halt] = to;
-                    ways += swapsFrom(net, halt + 1, taken | 1 << to);
+                    ways += swapsWith(net, halt, to, taken);
                 }
             }
             return ways;
+        }
+
+        private int swapsWith(Net net, int halt, int to, int taken) {
+            swapped[halt] = to;
+            return swapsFrom(net, halt + 1, taken | 1 << to);
         }
 
         private boolean keepsBeside(Net net, int halt, int to) {
