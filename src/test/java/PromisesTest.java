@@ -208,6 +208,20 @@ public final class PromisesTest {
         fault("days 1;", 1, 0);
         fault("day 1;;", 1, 6);
         fault("day x;", 1, 4);
+        fault("dayZ 1;", 1, 0);
+        fault("dayA 1;", 1, 0);
+        fault("dayz 1;", 1, 0);
+        fault("adaya 1;", 1, 0);
+        fault("day[1;", 1, 3);
+        fault("day@1;", 1, 3);
+        fault("day{1;", 1, 3);
+        fault("day`1;", 1, 3);
+        fault("day1;day9;", 0, -1);
+        fault("day 1:", 1, 5);
+        fault("day /1;", 1, 4);
+        fault("sides 1;", 1, 0);
+        fault("ride 1;", 1, 0);
+        fault("ridesridesrides 1;", 1, 0);
         fault("day \t1;", 1, 4);
         fault("day 1\u00e9;", 1, 5);
         fault("day 1\u0000", 1, 5);
@@ -392,6 +406,21 @@ public final class PromisesTest {
         due("day(1)", x.day(1), -1);
         promise = 20;
         due("foretold(5)", x.foretold(5), x.is(2));
+        x = net("01");
+        signs(x, 9);
+        text(x, "rides 10;");
+        x.by(0);
+        for (int i = 0; i < 166; i++) {
+            x.day(60);
+        }
+        x.day(37);
+        due("is(0)", x.is(0), 9997);
+        due("foretold(1)", x.foretold(1), x.is(2) + 9);
+        due("foretold(2)", x.foretold(2), x.is(2) + 18);
+        due("foretold(3)", x.foretold(3), x.is(2) + 18);
+        due("foretold(60)", x.foretold(60), x.is(2) + 18);
+        x.day(2);
+        due("foretold(1)", x.foretold(1), x.is(2));
         // the law sees the FUND of each LINE's own turn, and the DAY that is
         x = net("01 12");
         signs(x, 9, 0, 3);
@@ -1039,6 +1068,10 @@ public final class PromisesTest {
         due("change(5, 5, 1)", x.change(5, 5, 1), -2);
         due("change(7, 0, 0)", x.change(7, 0, 0), -2);
         due("change(0, -1, 0)", x.change(0, -1, 0), -2);
+        due("change(0, 7, 0)", x.change(0, 7, 0), -2);
+        due("change(-1, 0, 0)", x.change(-1, 0, 0), -2);
+        due("ride(7, 0)", x.ride(7, 0), -1);
+        due("ride(0, -1)", x.ride(0, -1), -1);
         x.turn(3);
         int[] longer = {0, 1, 2, 3, 4, -2};
         for (int i = 0; i < longer.length; i++) {
@@ -1095,8 +1128,37 @@ public final class PromisesTest {
     }
 
     private static void image() {
+        promise = 47;
+        FareNumbers x = net("01 12");
+        text(x, "rides which;");
+        x.said(1, 1);
+        x.said(0, 0);
+        x.image();
+        x.said(-1, 0);
+        x.said(0, 3);
+        x.said(0, 3);
+        due("whose()", x.whose(), 0);
+        x.back();
+        due("whose()", x.whose(), 1);
+        due("about(4)", x.about(4), 2);
+        x = new FareNumbers();
+        text(x, "rides 1;");
+        x.lay(0, 1);
+        x.image();
+        x.lay(1, 2);
+        text(x, "rides 2;");
+        x.back();
+        x.lay(3, 4);
+        text(x, "rides 3;");
+        x.by(1);
+        due("of(0, 4)", x.of(0, 4), 3);
+        due("of(1, 0)", x.of(1, 0), 3);
+        x.image();
+        x.back();
+        due("of(0, 4)", x.of(0, 4), 3);
+        due("of(1, 1)", x.of(1, 1), 4);
         promise = 46;
-        FareNumbers x = net("01");
+        x = net("01");
         signs(x, 4);
         x.day(3);
         text(x, "rides 1;");
