@@ -279,13 +279,7 @@ public final class FareNumbers {
     }
 
     public int book(int i, int what) {
-        if (i == NONE) {
-            return world.now.written;
-        }
-        if (i < 0 || i >= world.now.written) {
-            return OTHERS;
-        }
-        return world.now.told(i, what);
+        return i == NONE ? world.now.written : world.now.told(i, what);
     }
 
     public int foretold(int n) {
@@ -616,8 +610,11 @@ public final class FareNumbers {
             written++;
         }
 
-        /** What the i-th line of the BOOK tells; i is one that is written. */
+        /** What the i-th line of the BOOK tells, from the eldest on. */
         int told(int i, int what) {
+            if (i < 0 || i >= written) {
+                return OTHERS;
+            }
             int page = pages[i];
             switch (what) {
                 case 0:
