@@ -348,14 +348,9 @@ public final class FareNumbers {
             return NONE;
         }
         net.look(world);
-        if (net.count == 0) {
-            return 0;
-        }
         numbering.solve(net);
-        if (numbering.greatest != net.count) {
-            return NONE;
-        }
-        return net.isBeside(halt) ? numbering.row[halt] : world.now.numbers[halt];
+        // as many LINES as numbers to differ by: the least span is whole, or no row is
+        return numbering.greatest == net.count ? net.ofSearch(numbering.row, halt) : NONE;
     }
 
     public long wholes() {
@@ -369,10 +364,7 @@ public final class FareNumbers {
         }
         net.look(world);
         numbering.solve(net);
-        if (halt == NONE) {
-            return numbering.greatest;
-        }
-        return net.isBeside(halt) ? numbering.row[halt] : world.now.numbers[halt];
+        return halt == NONE ? numbering.greatest : net.ofSearch(numbering.row, halt);
     }
 
     public int apart(int near, int far, int halt) {
@@ -381,10 +373,7 @@ public final class FareNumbers {
         }
         net.look(world);
         spaced.space(net, near, far);
-        if (halt == NONE) {
-            return spaced.least;
-        }
-        return net.isBeside(halt) ? spaced.place[halt] : world.now.numbers[halt];
+        return halt == NONE ? spaced.least : net.ofSearch(spaced.place, halt);
     }
 
     public int alike(int line) {
@@ -423,10 +412,7 @@ public final class FareNumbers {
         }
         net.look(world);
         banded.bind(net);
-        if (halt == NONE) {
-            return banded.least;
-        }
-        return net.isBeside(halt) ? banded.place[halt] : 0;
+        return halt == NONE ? banded.least : net.ofSearch(banded.place, halt);
     }
 
     public int total() {
@@ -1349,15 +1335,7 @@ public final class FareNumbers {
 
         private boolean ask(int depth) {
             if (token == NOT) {
-                if (depth + 1 > NESTING) {
-                    return wrong(TOO_DEEP);
-                }
-                advance();
-                if (!ask(depth + 1)) {
-                    return false;
-                }
-                into.emit(NOT, 0);
-                return true;
+                return denied(depth + 1);
             }
             if (!sum(depth)) {
                 return false;
@@ -1371,6 +1349,18 @@ public final class FareNumbers {
                 return false;
             }
             into.emit(sign, 0);
+            return true;
+        }
+
+        private boolean denied(int depth) {
+            if (depth > NESTING) {
+                return wrong(TOO_DEEP);
+            }
+            advance();
+            if (!ask(depth)) {
+                return false;
+            }
+            into.emit(NOT, 0);
             return true;
         }
 
@@ -1511,6 +1501,11 @@ public final class FareNumbers {
 
         boolean isBeside(int halt) {
             return (with >> halt & 1) != 0;
+        }
+
+        /** What a search tells of a HALT: those beside none are left aside, their NUMBER and place in it is 0. */
+        int ofSearch(int[] row, int halt) {
+            return isBeside(halt) ? row[halt] : 0;
         }
 
         /** The HALTS that are come to from one, not going by the line of that number (NONE: by all). */

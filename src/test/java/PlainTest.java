@@ -918,6 +918,11 @@ public final class PlainTest {
                 return true;
             }
 
+            /** HALTS beside none are left aside: what is told of them is 0, whatever their NUMBER is. */
+            int told(int halt) {
+                return halts.contains(halt) ? first[halt] : 0;
+            }
+
             /** For the least top. */
             void goUp() {
                 top = 0;
@@ -940,13 +945,7 @@ public final class PlainTest {
                 return -1;
             }
             Rows rows = wholeRows();
-            if (rows.halts.isEmpty()) {
-                return 0;
-            }
-            if (!rows.go()) {
-                return -1;
-            }
-            return rows.halts.contains(halt) ? rows.first[halt] : w.now.numbers[halt];
+            return rows.go() ? rows.told(halt) : -1;
         }
 
         public long wholes() {
@@ -962,7 +961,7 @@ public final class PlainTest {
             }
             Rows rows = wholeRows();
             rows.goUp();
-            return halt == -1 ? rows.top : rows.halts.contains(halt) ? rows.first[halt] : w.now.numbers[halt];
+            return halt == -1 ? rows.top : rows.told(halt);
         }
 
         public int apart(int near, int far, int halt) {
@@ -973,7 +972,7 @@ public final class PlainTest {
             rows.near = near;
             rows.far = far;
             rows.goUp();
-            return halt == -1 ? rows.top : rows.halts.contains(halt) ? rows.first[halt] : w.now.numbers[halt];
+            return halt == -1 ? rows.top : rows.told(halt);
         }
 
         public int band(int halt) {
@@ -987,7 +986,7 @@ public final class PlainTest {
             while (!rows.go()) {
                 rows.band++;
             }
-            return halt == -1 ? rows.band : rows.halts.contains(halt) ? rows.first[halt] : 0;
+            return halt == -1 ? rows.band : rows.told(halt);
         }
 
         /** Weights for OPEN LINES, LINE by LINE. */
