@@ -35,6 +35,7 @@ public final class PromisesTest {
         whose();
         image();
         manyNets();
+        besideNone();
         if (wrong != 0) {
             System.out.println(wrong + " answers are not as due");
             System.exit(1);
@@ -45,9 +46,7 @@ public final class PromisesTest {
     /** A net of these LINES: 01 12 is from 0 to 1 and from 1 to 2. */
     private static FareNumbers net(String lines) {
         FareNumbers x = new FareNumbers();
-        for (int i = 0; i + 1 < lines.length(); i += 3) {
-            x.lay(lines.charAt(i) - '0', lines.charAt(i + 1) - '0');
-        }
+        lines(x, lines);
         return x;
     }
 
@@ -154,6 +153,59 @@ public final class PromisesTest {
         due("apart", x.apart(2, 2, second / 7), 0);
         due("apart", x.apart(3, 2, second % 7), 3);
         due("apart", x.apart(3, 3, second % 7), 3);
+    }
+
+    /** In all searches HALTS beside none are left aside: 0 is told of them, whatever NUMBER they have. */
+    private static void besideNone() {
+        String[] nets = {"", "01", "24 46", "01 12 02", "36 35 56", "01 02 03 12 13 23", "06 16 26 36", "01 23 45"};
+        for (String from : nets) {
+            FareNumbers x = net(from);
+            signs(x, 3, 14, 15, 92, 65, 35, 89);
+            aside(x);
+            for (int line = 0; line < from.length() / 3 + 1; line++) {
+                x.turn(line);
+                aside(x);
+            }
+            for (String to : nets) {
+                // rows of a net that has all HALTS, and of another one, are there ahead of it
+                x = net("01 12 23 34 45 56");
+                signs(x, 3, 14, 15, 92, 65, 35, 89);
+                aside(x);
+                x.back();
+                lines(x, from);
+                x.years(26, 9);
+                aside(x);
+                x.back();
+                lines(x, to);
+                signs(x, 1, 1, 1, 1, 1, 1, 1);
+                aside(x);
+            }
+        }
+    }
+
+    private static void lines(FareNumbers x, String lines) {
+        for (int i = 0; i + 1 < lines.length(); i += 3) {
+            x.lay(lines.charAt(i) - '0', lines.charAt(i + 1) - '0');
+        }
+    }
+
+    private static void aside(FareNumbers x) {
+        int wholes = x.wholes() == 0 ? -1 : 0;
+        for (int halt = 0; halt < 7; halt++) {
+            if (x.ofHalt(halt, 1) != 0) {
+                continue;
+            }
+            promise = 24;
+            due("whole(" + halt + ") beside none", x.whole(halt), wholes);
+            promise = 26;
+            due("span(" + halt + ") beside none", x.span(halt), 0);
+            promise = 27;
+            for (int near = 0; near <= 3; near++) {
+                due("apart(.., " + halt + ") beside none", x.apart(near, 3 - near, halt), 0);
+            }
+            promise = 31;
+            due("band(" + halt + ") beside none", x.band(halt), 0);
+        }
     }
 
     private static void tape() {
