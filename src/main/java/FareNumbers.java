@@ -349,7 +349,7 @@ public final class FareNumbers {
         }
         net.look(world);
         numbering.solve(net);
-        // as many LINES as numbers to differ by: the least span is whole, or no row is
+        // unlike FARES, none above how many LINES there are: then none is LEFT OUT
         return numbering.greatest == net.count ? net.ofSearch(numbering.row, halt) : NONE;
     }
 
