@@ -55,7 +55,8 @@ public final class PlainTest {
         }
 
         String go() throws Exception {
-            int most = 100 + random.nextInt(400);
+            // a text takes up to 40 calls more: 512 in all at most
+            int most = 100 + random.nextInt(370);
             while (done < most) {
                 String wrong = step();
                 if (wrong != null) {
