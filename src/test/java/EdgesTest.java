@@ -575,6 +575,23 @@ public final class EdgesTest {
             due("book(0, " + what + ")", x.book(0, what), -2);
             due("book(24, " + what + ")", x.book(24, what), -2);
         }
+        sentence = "Plated, turned, ridden are written down, nothing else";
+        x = by(net("01", 5), "rides 0;");
+        x.undo();
+        due("grant(9)", x.grant(9), true);
+        due("day(60)", x.day(60), 0);
+        x.by(-1);
+        x.said(0, 5);
+        x.image();
+        due("plate(6, 0)", x.plate(6, 0), -1);
+        due("turn(1)", x.turn(1), false);
+        due("grant(100)", x.grant(100), false);
+        due("foretold(60)", x.foretold(60), 59);
+        due("book(-1, 0)", x.book(-1, 0), 0);
+        due("turn(0)", x.turn(0), true);
+        due("book(-1, 0)", x.book(-1, 0), 1);
+        due("undo()", x.undo(), 29);
+        due("book(-1, 0)", x.book(-1, 0), 0);
         sentence = "BOOK: of a DAY of ten LINES, the eldest go first";
         x = by(net(TEN, 9), "rides 10;");
         x.day(2);
@@ -2505,9 +2522,14 @@ public final class EdgesTest {
             return;
         }
         FareNumbers x = made.anew();
+        int days = x.is(0);
         x.years(seed, 2);
+        days = x.is(0) - days;
         FareNumbers y = made.anew();
         int drawn = drawnBoth(seed);
+        for (int i = 0; i < days * Integer.bitCount(x.is(3)); i++) {
+            drawn = drawnBehind(drawn);
+        }
         if (asHand == null) {
             // a STEP that does nothing but to X
             y.years(seedOf(one -> one % 6 == 1 && one % 4 == 1), 2);
@@ -2566,6 +2588,14 @@ public final class EdgesTest {
             int one = kind;
             draw("a DAY", () -> net(""), x -> x % 6 == one, x -> x.day(1));
             draw("a DAY, the last", () -> late(net(""), 9998), x -> x % 6 == one, x -> x.day(1));
+            for (int lacks = 98; lacks <= 100; lacks++) {
+                int fund = 99999 - lacks;
+                draw("a DAY, FUND at its end", () -> {
+                    FareNumbers rich = rich(fund);
+                    rich.turn(3);
+                    return rich;
+                }, x -> x % 6 == one, x -> x.day(1));
+            }
             draw("a DAY, none can pass", () -> late(net("01", 9), 9999), x -> x % 6 == one, null);
         }
         sentence = "YEARS: X is anew (as in a draw) ahead of what a DAY draws";
