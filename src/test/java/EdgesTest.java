@@ -59,6 +59,7 @@ public final class EdgesTest {
         playedTexts();
         nothingIsOpen();
         besideNone();
+        openLinesAlone();
         left();
         twins();
         wholeNumbers();
@@ -906,6 +907,32 @@ public final class EdgesTest {
             due("costs(0, 1)", x.costs(0, 1), i);
             due("of(0, 4)", x.of(0, 4), -1);
         }
+        sentence = "a TEXT has nothing of what was read ahead of it, with a FAULT or taken back";
+        x = net("01");
+        due("text()", text(x, "grant 1;rides 3;costs 4;turn 0;grant 0;"), -1);
+        due("text()", text(x, "day 1;"), 0);
+        x.by(0);
+        due("of(0, 4)", x.of(0, 4), 5);
+        due("costs(0, 1)", x.costs(0, 1), 1);
+        due("played(0)", x.played(0), -1);
+        due("is(0)", x.is(0), 1);
+        due("is(2)", x.is(2), 50);
+        due("is(3)", x.is(3), 1);
+        due("text()", text(x, "grant 1;rides 3;costs 4;turn 0;"), 1);
+        x.back();
+        x.lay(0, 1);
+        due("text()", text(x, "rides 7-6;"), 0);
+        x.by(0);
+        due("of(0, 4)", x.of(0, 4), 1);
+        due("costs(0, 1)", x.costs(0, 1), 1);
+        due("played(0)", x.played(0), -1);
+        due("about(3)", x.about(3), 0);
+        x.back();
+        x.lay(0, 1);
+        due("text()", text(x, "costs 2;"), 0);
+        x.by(0);
+        due("of(0, 4)", x.of(0, 4), 5);
+        due("costs(0, 1)", x.costs(0, 1), 2);
         sentence = "fault: NONE for others, and ahead of any";
         x = new FareNumbers();
         due("fault(0)", x.fault(0), -1);
@@ -1681,6 +1708,7 @@ public final class EdgesTest {
         x.mend();
         x.names();
         x.game(5);
+        x.game(0);
         x.ride(0, 1);
     }
 
@@ -1723,6 +1751,53 @@ public final class EdgesTest {
         for (int line = 0; line <= 4; line++) {
             due("alike(" + line + ")", x.alike(line), line == 1 ? 1 : -1);
         }
+    }
+
+    private static void openLinesAlone() {
+        sentence = "All that follows goes by OPEN LINES alone";
+        Asked[] searches = {x -> x.foretold(9), x -> x.fair() ? 1 : 0, x -> x.left(), x -> x.twin(false), x -> x.twin(true),
+            x -> x.whole(2), x -> x.wholes(), x -> x.span(2), x -> x.apart(2, 1, 2), x -> x.alike(-1), x -> x.alikes(),
+            x -> x.unlike(1), x -> x.band(2), x -> x.total(), x -> x.mend(), x -> x.names(), x -> x.parts(), x -> x.cuts(),
+            x -> x.game(0), x -> x.mark(0), x -> x.ride(0, 2), x -> x.change(0, 2, 1), x -> x.dearest()};
+        String lines = "01 12 02 34";
+        for (int one = 0; one < searches.length; one++) {
+            for (int line = 0; line < 4; line++) {
+                // the LINES that are OPEN keep their order, one that isn't stands behind them
+                String others = lines.replaceFirst(lines.substring(3 * line, 3 * line + 2) + " ?", "").trim();
+                FareNumbers x = net(lines, 0, 5, 2, 9, 4);
+                searches[one].of(x);
+                x.turn(line);
+                long got = searches[one].of(x);
+                FareNumbers y = net(others, 0, 5, 2, 9, 4);
+                boolean byNumber = one == 3 || one == 4 || one == 11 || one == 17 || one == 22;
+                if (!byNumber || line == 3) {
+                    due("search " + one + " without LINE " + line, got, searches[one].of(y));
+                }
+                x.turn(line);
+                due("search " + one + " with LINE " + line, searches[one].of(x), searches[one].of(net(lines, 0, 5, 2, 9, 4)));
+            }
+        }
+        FareNumbers x = net(lines, 0, 5, 2, 9, 4);
+        x.turn(3);
+        due("cuts() of a round", x.cuts(), 0);
+        x.turn(1);
+        due("cuts()", x.cuts(), 5);
+        due("names()", x.names(), 48);
+        x.turn(0);
+        due("names()", x.names(), 240);
+        due("cuts()", x.cuts(), 4);
+        due("game(0)", x.game(0), 0);
+        x.turn(2);
+        due("game(0)", x.game(0), 1);
+        due("mark(0)", x.mark(0), 0);
+        x = net(lines, 0, 5, 2, 9, 4);
+        due("parts()", x.parts(), 4);
+        x.turn(3);
+        due("parts()", x.parts(), 5);
+        x = net(lines, 0, 5, 2, 9, 4);
+        due("mark(96), two rounds of which each takes one mark", x.mark(96), -1);
+        x.turn(3);
+        due("mark(96)", x.mark(96), 0);
     }
 
     private static void left() {
@@ -1976,7 +2051,10 @@ public final class EdgesTest {
         x.turn(0);
         due("apart(0, 3, -1)", x.apart(0, 3, -1), 3);
         due("apart(1, 3, -1)", x.apart(1, 3, -1), 3);
-        // three LINES off: neither
+        // three LINES off, and in other PARTS: neither
+        due("apart(0, 3, -1) of two PARTS", net("01 23").apart(0, 3, -1), 0);
+        due("apart(1, 3, -1) of two PARTS", net("01 23").apart(1, 3, -1), 1);
+        due("apart(2, 3, -1) of three PARTS", net("01 23 45").apart(2, 3, -1), 2);
         x = net("01 12 23");
         due("apart(0, 3, -1)", x.apart(0, 3, -1), 3);
         row("apart(0, 3)", each("03"), x, 0, 0, 3, 3);
@@ -2112,7 +2190,10 @@ public final class EdgesTest {
         String[] nets = {"01", "01 12", "01 12 20", "01 02 03", "01 23 45", "01 02 03 04 05 06", "01 12 23 34 45 56", "01 12 23 34 45 56 60", "01 02 03 04 12 13 14 23 24 34"};
         int[] totals = {1, 2, 4, 4, 3, 12, 6, 12, 20};
         for (int i = 0; i < nets.length; i++) {
-            due("total() of " + nets[i], net(nets[i]).total(), totals[i]);
+            x = net(nets[i]);
+            due("total() of " + nets[i], x.total(), totals[i]);
+            searched(x);
+            due("total() of " + nets[i] + ", behind other searches", x.total(), totals[i]);
         }
     }
 
@@ -2141,6 +2222,7 @@ public final class EdgesTest {
             "35 30 40 15 20 06 61 56 41 25", "25 20 23 21 01 04 31 53 30", "34 31 35 02 50 21 32 25 51 01",
             // the same beside NUMBERS and FARES above 63
             "41 46 45 40 30 15 52 21 60 32", "02 04 06 01 03 42 46 51 23 65", "16 15 13 12 42 32 30 54 65 35", "16 12 15 14 13 36 46 24 43 02",
+            "25 21 26 24 20 01 34 51 45 16", "14 10 12 13 34 30 26 20 45 05", "50 53 52 51 10 02 03 31 21 43",
             "01 02", "01 14 24 34", "01 02 03 04 05 06", "01 02 03 04 05 06", "01 12 23 30", "01 12 23 30 45",
         };
         int[][] numbers = {
@@ -2148,9 +2230,10 @@ public final class EdgesTest {
             {0, 13, 15, 12, 6, 11, 10}, {13, 16, 17, 6, 7, 9}, {9, 19, 9, 15, 7, 8},
             {3, 7, 8, 9, 11, 16, 18}, {5, 13, 21, 14, 3, 9}, {12, 8, 15, 14, 9, 13},
             {78, 6, 0, 72, 13, 9, 8}, {86, 82, 5, 12, 9, 76, 71}, {90, 8, 6, 11, 15, 9, 98}, {98, 99, 7, 13, 14, 92, 9},
+            {2, 99, 99, 0, 99, 90, 99}, {1, 1, 1, 95, 0, 92, 1}, {1, 1, 99, 0, 1, 0},
             {99, 29, 29}, {29, 99, 99, 9, 29}, {99, 35, 36, 36, 37, 34, 34}, {64, 0, 1, 99, 29, 63, 65}, {99, 0, 99, 35}, {99, 0, 98, 36, 64, 0},
         };
-        int[] sets = {16, 1, 2, 2, 5, 3, 3, 4, 1, 8, 2, 2, 4, 4};
+        int[] sets = {16, 1, 2, 2, 5, 3, 3, 4, 1, 8, 2, 2, 4, 4, 22, 7, 11};
         for (int i = 0; i < tight.length; i++) {
             int want = plainMend(tight[i], numbers[i]);
             due("mend() of " + tight[i], net(tight[i], numbers[i]).mend(), want);
@@ -2644,11 +2727,19 @@ public final class EdgesTest {
         x = full();
         due("image()", x.image(), 9990);
         String want = look(full());
+        due("whose(), by what is SAID", full().whose(), 2);
         Asked[] others = {
             y -> y.day(9),
             y -> y.undo() + y.undo() + y.undo(),
             y -> y.turn(9) & y.turn(0) ? 1 : 0,
             y -> y.said(-1, 0),
+            y -> {
+                y.said(-1, 0);
+                for (int i = 0; i < 8; i++) {
+                    y.said(9 - i, 9 - i);
+                }
+                return 0;
+            },
             y -> y.by(-1) ? 1 : 0,
             y -> y.years(9999, 40),
             y -> y.plate(0, 0) + y.plate(6, 99),
