@@ -2214,6 +2214,13 @@ public final class EdgesTest {
         due("mend()", net("60 61 62").mend(), 7);
         // 4 alone, though 0 and 1 would do and are lower bits
         due("mend()", net("40 23 41 56", 5, 4, 0, 5, 10, 0, 6).mend(), 16);
+        // of five HALTS, all beside one another, one alone may stay: 0 1 4 9 11 have unlike FARES
+        String five = "01 02 03 04 12 13 14 23 24 34";
+        due("mend(), all are 0", net(five).mend(), 15);
+        due("mend(), all are 99", net(five, 99, 99, 99, 99, 99).mend(), 15);
+        due("mend(), of a net without HALT 0", net("12 13 14 15 23 24 25 34 35 45").mend(), 30);
+        due("mend()", net(five, 0, 1, 4, 9, 11).mend(), 0);
+        due("mend(), one FARE is there twice", net(five, 0, 1, 4, 9, 10).mend(), plainMend(five, new int[] {0, 1, 4, 9, 10}));
         sentence = "TO MEND: any other NUMBER 0 .. 20, whatever theirs is";
         // for the lowest set 20 is needed, or 0 is, or 21 would do where another set must
         String[] tight = {
@@ -2319,10 +2326,10 @@ public final class EdgesTest {
         // 1, 3 and 5 are beside all others
         due("game(42)", x.game(42), 0);
         due("mark(42)", x.mark(42), -1);
-        due("game(74), 5 and 6 stay", x.game(10 | 64), 0);
+        due("game(74), none is free", x.game(74), 0);
         due("game(10), 5 or 6", x.game(10), 1);
         due("mark(10)", x.mark(10), 5);
-        due("game(1), with none beside", net("01").game(3), 1);
+        due("game(3), five stay that are beside none", net("01").game(3), 1);
         sentence = "A GAME: some HALTS are marked (maybe beside one another)";
         // 3, 4, 5 and 6 stay, in a row
         due("game(3)", x.game(3), 0);
